@@ -323,6 +323,11 @@ public final class PromiseTests {
         is("10 count", x.count(4), 8);
         is("10 full", x.read(0), 0);
         is("10 sheet stays", x.get(3, 2, 4), 24);
+        PloughTurns y = new PloughTurns();
+        y.sheet(2, 0, 3);
+        is("10 three items are one", y.read(2), 1);
+        y.sheet(2, 0, 2);
+        is("10 two are none", y.read(2), 0);
         x.sheet(1, 1, 3);
         putRow(x, 1, 1, 2, 0, 0);
         x.back();
@@ -551,7 +556,12 @@ public final class PromiseTests {
         is("20 ahead of it", y.plough(4, 1), 1);
         is("20 whatever room", full().plough(23, 0), 1);
         is("20 whatever room", full().plough(23, 1), 2);
-        is("20 room stays full", full().event(0, 0, 0), FULL);
+        PloughTurns f = full();
+        is("20 met anyhow", f.plough(1, 0), 0);
+        is("20 met anyhow", f.plough(1, 1), 1);
+        is("20 room stays full", f.count(4), 8);
+        is("20 room stays full", f.event(0, 0, 0), FULL);
+        is("20 the last is still told", f.back(), 7);
         // What one plough more brings may keep another from coming.
         PloughTurns z = Check.made("r001;d011", "0d1;1d1", 0, 3, 0);
         is("20 by the last night", z.plough(3, 0), 1);
@@ -1052,6 +1062,12 @@ public final class PromiseTests {
         is("38 findings are not in it", x.digest(), before);
         PloughTurns y = Check.made(FULL_GONE, FULL_NEEDS, 0, 9, 0, 0, 10, 1, 0, 11, 0, 1, 12, 0, 0, 13, 0);
         is("38 digest", y.digest(), digestOf(y));
+        // By furrow and how many, a plough on night 8 is unlike one on night 7 or 9.
+        PloughTurns z = Check.made("d001;d011;d021", "0h1;1i1;1i1;2j1;2j1;2j1");
+        are("38 plough", new long[] {z.plough(7, 1), z.plough(8, 1), z.plough(9, 1)}, 1, 2, 3);
+        is("38 digest", z.digest(), digestOf(z));
+        PloughTurns w = Check.made("r001;r011;r021;r031;r041;r051", "0a1;1a1;2c1;3e1");
+        is("38 digest", w.digest(), digestOf(w));
         PloughTurns none = new PloughTurns();
         is("38 digest", none.digest(), digestOf(none));
         is("38 digest", faulty().digest(), digestOf(faulty()));
