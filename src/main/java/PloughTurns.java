@@ -10,6 +10,8 @@ public final class PloughTurns {
     private static final int GONE_BYTES = 39, NEED_BYTES = 31;
     private static final int SHEETS = 4, FORMS = 3, ITEMS = 60, LOST = -1;
     private static final int NULL = 1, INDEX = 2, CAST = 3, STORE = 4, SIZE = 5;
+    private static final int LEAST_INT = 1 << 31;
+    private static final long LEAST_LONG = 1L << 63;
 
     private final Text goneText = new Text(GONE_BYTES);
     private final Text needText = new Text(NEED_BYTES);
@@ -321,7 +323,7 @@ public final class PloughTurns {
 
     public long chance(int c, int need, int what) {
         if (!isBelow(c, SIXTEENTHS + 1) || !isBelow(need, needs.size) || !isBelow(what, 2)) {
-            return Long.MIN_VALUE - BAD;
+            return LEAST_LONG - BAD;
         }
         if (oddsAreStale) {
             odds.tally(gone, needs, events, trial);
@@ -377,7 +379,7 @@ public final class PloughTurns {
 
     public int get(int s, int form, int i) {
         if (refuseItem(s, form, i) != 0) {
-            return Integer.MIN_VALUE;
+            return LEAST_INT;
         }
         return sheets[s].items[i];
     }

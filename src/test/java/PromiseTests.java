@@ -3,8 +3,7 @@ public final class PromiseTests {
     private static final int NONE = -1, BAD = -2, NOT = -3, FULL = -4;
     private static final int NULL = -11, INDEX = -12, CAST = -13, STORE = -14, SIZE = -15;
     private static final int LEAST = Integer.MIN_VALUE, MOST = Integer.MAX_VALUE;
-    private static final String FULL_GONE = "d001;c105;r209;d302;c401;r503;d011;c119";
-    private static final String FULL_NEEDS = "0a1;1b2;2c3;3d4;4e5;5f6;6g7;7x9";
+    private static final String FULL_GONE = Check.FULL_GONE, FULL_NEEDS = Check.FULL_NEEDS;
 
     private PromiseTests() {
     }
@@ -60,12 +59,8 @@ public final class PromiseTests {
         Check.is(call, got, due);
     }
 
-    /** Holds a row of answers against a row of dues. */
     private static void are(String calls, long[] got, long... due) {
-        is(calls + " length", got.length, due.length);
-        for (int k = 0; k < got.length && k < due.length; k++) {
-            is(calls + " [" + k + "]", got[k], due[k]);
-        }
+        Check.are(calls, got, due);
     }
 
     /**
@@ -309,13 +304,13 @@ public final class PromiseTests {
         x.sheet(3, 2, 0);
         is("10 read none", x.read(3), 0);
         x.sheet(3, 2, 8);
-        putRow(x, 3, 2, 0, 7, 0, 1, 9, 0, 0, 3);
+        Check.putRow(x, 3, 2, 0, 7, 0, 1, 9, 0, 0, 3);
         is("10 whole ones", x.read(3), 2);
         is("10 count", x.count(4), 2);
         is("10 stood", x.stood(0), 2);
         is("10 behind those there", x.read(3), 2);
         is("10 count", x.count(4), 4);
-        putRow(x, 3, 2, 0, 1, 1, 0, 24, 0);
+        Check.putRow(x, 3, 2, 0, 1, 1, 0, 24, 0);
         is("10 up to a refused one", x.read(3), 1);
         is("10 count", x.count(4), 5);
         x.sheet(0, 0, 60);
@@ -329,41 +324,27 @@ public final class PromiseTests {
         y.sheet(2, 0, 2);
         is("10 two are none", y.read(2), 0);
         x.sheet(1, 1, 3);
-        putRow(x, 1, 1, 2, 0, 0);
+        Check.putRow(x, 1, 1, 2, 0, 0);
         x.back();
         is("10 refused at once", x.read(1), 0);
     }
 
-    private static void putRow(PloughTurns x, int s, int form, int... row) {
-        for (int i = 0; i < row.length; i++) {
-            x.put(s, form, i, row[i]);
-        }
-    }
-
-    private static long[] nights(PloughTurns x, int one, int what, int upTo) {
-        long[] row = new long[upTo + 1];
-        for (int night = 0; night <= upTo; night++) {
-            row[night] = x.at(night, one, what);
-        }
-        return row;
-    }
-
     private static void at() {
         PloughTurns x = year();
-        are("11 up 0", nights(x, 0, 0, 5), 0, 0, 0, 0, 1, 1);
-        are("11 up 1", nights(x, 1, 0, 5), 0, 0, 1, 1, 0, 0);
-        are("11 up 2", nights(x, 2, 0, 5), 1, 1, 1, 1, 0, 0);
-        are("11 up 3", nights(x, 3, 0, 5), 0, 0, 1, 1, 1, 1);
-        are("11 wanted 0", nights(x, 0, 1, 5), 1, 2, 3, 13, 0, 0);
-        are("11 wanted 1", nights(x, 1, 1, 5), 0, 0, 0, 0, 0, 0);
-        are("11 wanted 3", nights(x, 3, 1, 3), 0, 2, 0, 0);
-        are("11 times 2", nights(x, 2, 2, 5), 1, 1, 1, 1, 1, 1);
-        are("11 times 1", nights(x, 1, 2, 5), 0, 0, 1, 1, 1, 1);
+        are("11 up 0", Check.nights(x, 0, 0, 5), 0, 0, 0, 0, 1, 1);
+        are("11 up 1", Check.nights(x, 1, 0, 5), 0, 0, 1, 1, 0, 0);
+        are("11 up 2", Check.nights(x, 2, 0, 5), 1, 1, 1, 1, 0, 0);
+        are("11 up 3", Check.nights(x, 3, 0, 5), 0, 0, 1, 1, 1, 1);
+        are("11 wanted 0", Check.nights(x, 0, 1, 5), 1, 2, 3, 13, 0, 0);
+        are("11 wanted 1", Check.nights(x, 1, 1, 5), 0, 0, 0, 0, 0, 0);
+        are("11 wanted 3", Check.nights(x, 3, 1, 3), 0, 2, 0, 0);
+        are("11 times 2", Check.nights(x, 2, 2, 5), 1, 1, 1, 1, 1, 1);
+        are("11 times 1", Check.nights(x, 1, 2, 5), 0, 0, 1, 1, 1, 1);
         PloughTurns y = Check.made("d009", "0b5;0d1;0x9");
-        are("11 nine at most each", nights(y, 0, 1, 13), 0, 5, 6, 8, 10, 12, 13, 14, 15, 16, 17, 18, 18, 18);
+        are("11 nine at most each", Check.nights(y, 0, 1, 13), 0, 5, 6, 8, 10, 12, 13, 14, 15, 16, 17, 18, 18, 18);
         is("11 wanted by three", y.at(23, 0, 1), 27);
         PloughTurns z = Check.made("r001", "", 0, 0, 0, 1, 1, 0, 0, 1, 0, 1, 1, 0, 0, 3, 0);
-        are("11 often", nights(z, 0, 2, 4), 1, 2, 2, 3, 3);
+        are("11 often", Check.nights(z, 0, 2, 4), 1, 2, 2, 3, 3);
         int[][] bad = {{-1, 0, 0}, {24, 0, 0}, {0, -1, 0}, {0, 4, 0}, {0, 0, -1}, {0, 0, 3}, {MOST, LEAST, MOST}};
         for (int[] b : bad) {
             is("11 at", x.at(b[0], b[1], b[2]), BAD);
@@ -931,26 +912,18 @@ public final class PromiseTests {
         is("34 finding stays", x.count(8), 2);
     }
 
-    private static long[] row(PloughTurns x, int s, int form, int n) {
-        long[] row = new long[n];
-        for (int i = 0; i < n; i++) {
-            row[i] = x.get(s, form, i);
-        }
-        return row;
-    }
-
     private static void copy() {
         PloughTurns x = new PloughTurns();
         x.sheet(0, 1, 5);
         x.sheet(1, 1, 3);
         x.sheet(2, 2, 5);
-        putRow(x, 0, 1, 1, 2, 3, 4, 5);
+        Check.putRow(x, 0, 1, 1, 2, 3, 4, 5);
         is("35 copy", x.copy(0, 1, 1, 0, 3), 1);
-        are("35 copied", row(x, 1, 1, 3), 2, 3, 4);
+        are("35 copied", Check.row(x, 1, 1, 3), 2, 3, 4);
         is("35 copy", x.copy(0, 0, 0, 1, 4), 1);
-        are("35 as they were, up", row(x, 0, 1, 5), 1, 1, 2, 3, 4);
+        are("35 as they were, up", Check.row(x, 0, 1, 5), 1, 1, 2, 3, 4);
         is("35 copy", x.copy(0, 1, 0, 0, 4), 1);
-        are("35 as they were, down", row(x, 0, 1, 5), 1, 2, 3, 4, 4);
+        are("35 as they were, down", Check.row(x, 0, 1, 5), 1, 2, 3, 4, 4);
         is("35 of none at the end", x.copy(0, 5, 1, 3, 0), 1);
         is("35 of none, i above", x.copy(0, 6, 1, 3, 0), INDEX);
         is("35 of none, j above", x.copy(0, 5, 1, 4, 0), INDEX);
@@ -973,7 +946,7 @@ public final class PromiseTests {
         is("35 bad", x.copy(4, 0, 0, 0, 1), BAD);
         is("35 bad", x.copy(0, 0, -1, 0, 1), BAD);
         is("35 finding stays", x.count(8), 1);
-        are("35 stays", row(x, 1, 1, 3), 2, 3, 4);
+        are("35 stays", Check.row(x, 1, 1, 3), 2, 3, 4);
     }
 
     private static void write() {
@@ -988,10 +961,10 @@ public final class PromiseTests {
         x.put(0, 2, 9, 77);
         is("36 of 24 at most", x.write(0, 0), 24);
         long[] due = {1, 2, 3, 13, 0, 0, 0, 0, 0, 0, 0, 0, 0, 0, 0, 0, 0, 0, 0, 0, 0, 0, 0, 0, 77, 0};
-        are("36 written", row(x, 0, 2, 26), due);
+        are("36 written", Check.row(x, 0, 2, 26), due);
         x.sheet(1, 0, 3);
         is("36 as many as there are", x.write(0, 1), 3);
-        are("36 written", row(x, 1, 0, 3), 1, 2, 3);
+        are("36 written", Check.row(x, 1, 0, 3), 1, 2, 3);
         x.sheet(1, 1, 0);
         is("36 none", x.write(0, 1), 0);
         is("36 nobody", new PloughTurns().write(0, 0), BAD);
@@ -1013,7 +986,7 @@ public final class PromiseTests {
     }
 
     /** What digest() tells of, called one by one. */
-    private static long digestOf(PloughTurns x) {
+    static long digestOf(PloughTurns x) {
         Row row = new Row();
         for (int what = 0; what < 8; what++) {
             row.add(x.count(what));
