@@ -286,6 +286,8 @@ public final class EdgesOfNights {
         for (int one = 0; one < 8; one++) {
             is("12 each in its cell", all.field(0, one % 6, one / 6), one);
         }
+        is("12 none of eight", all.field(0, 2, 1), NONE);
+        is("12 none of eight", all.field(23, 5, 5), NONE);
         is("12 nobody told", new PloughTurns().field(23, 5, 5), NONE);
         PloughTurns faulty = Check.made("r001;", "", 0, 0, 0);
         is("12 nobody of a faulty text", faulty.field(0, 0, 0), NONE);

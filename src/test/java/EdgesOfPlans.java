@@ -571,6 +571,11 @@ public final class EdgesOfPlans {
     }
 
     private static void askOfLikeNights() {
+        // By a far of 1 to much up, by the others not: the least odds, eight to one, are better than none.
+        for (int much = 1; much <= 8; much++) {
+            is("28 up by 1 to " + much, Check.made("c009", "0r" + much, 0, 17, 0).ask(0), 17);
+        }
+        is("28 up by all", Check.made("c009", "0r9", 0, 17, 0).ask(0), 0);
         is("28 no events", Check.made("c009", "0a5").ask(0), 0);
         is("28 a Roman's far is all one", Check.made("r001", "", 0, 4, 0).ask(0), 0);
         // 4 and 5 as good as 5 and 4: the least night.
@@ -674,6 +679,20 @@ public final class EdgesOfPlans {
         chanceIs("of another furrow", x, 8, 0, 0, 1);
         x.event(0, 23, 5);
         chanceIs("of the last night", x, 8, 0, 1, 2);
+        // Of each of eight needs, and then of what else is told.
+        PloughTurns all = Check.made("d001", "0a1;0b1;0c1;0d1;0e1;0f1;0g1;0h1", 0, 7, 0);
+        for (int need = 0; need < 8; need++) {
+            chanceIs("of need " + need + " by one", all, 4, need, 1, 4);
+        }
+        all.event(0, 7, 0);
+        for (int need = 0; need < 8; need++) {
+            chanceIs("of need " + need + " by either", all, 4, need, 7, 16);
+        }
+        all.back();
+        all.back();
+        for (int need = 0; need < 8; need++) {
+            chanceIs("of need " + need + " by none", all, 4, need, 0, 1);
+        }
         // The harrow ahead of the need's night leaves room to come again.
         PloughTurns y = Check.made("r001", "0f1", 0, 0, 0, 1, 3, 0, 0, 9, 0);
         chanceIs("by a plough, unless up already", y, 8, 0, 3, 8);
