@@ -14,6 +14,7 @@ public final class EdgesOfNights {
         likeOnesByLessX();
         upOnesAreLeftOut();
         romanByHowOften();
+        othersNotByHowOften();
         needsOfTheSameOneAreMetTogether();
         whoIsUpMeetsNone();
         harrowAllOfOneFurrow();
@@ -148,6 +149,26 @@ public final class EdgesOfNights {
                 y.event(0, 20, 0);
                 is("as much as the Roman's " + n, y.at(20, 0, 0), 1);
             }
+        }
+        // Ahead of that: ahead of this plough, on the same night, too. Both come, are harrowed in, and
+        // of the two the Roman pulls by 1, of more x.
+        PloughTurns same = Check.made("r101;d001", "", 0, 7, 0, 0, 7, 0, 1, 7, 0, 0, 7, 0);
+        is("the Roman, once ahead of that", same.at(7, 0, 0), 1);
+        is("the Roman, once ahead of that", same.at(7, 0, 2), 2);
+        is("not the other", same.at(7, 1, 0), 0);
+        // However much a Roman is wanted, it is how often alone.
+        PloughTurns wanted = Check.made("r101;d001", "0a9;0a9;0a9;0a9;0a9;0a9;0a9;0a9", 0, 23, 0);
+        is("not by how much the Roman is wanted", wanted.first(1), 1);
+    }
+
+    /** How often one came makes no pull but of a Roman. */
+    private static void othersNotByHowOften() {
+        for (String sort : new String[] {"d", "c"}) {
+            // Wanted on the nights 0 and 1 by 3 one comes both times; on night 2 both are wanted by 1.
+            PloughTurns x = Check.made(sort + "101;" + sort + "001", "0a3;0b3;0c1;1c1",
+                0, 0, 0, 1, 0, 0, 0, 1, 0, 1, 1, 0, 0, 2, 0);
+            is("came twice", x.at(2, 0, 2), 2);
+            is("of like ones the one of less x, sort " + sort, x.at(2, 1, 0), 1);
         }
     }
 

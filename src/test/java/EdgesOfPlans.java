@@ -28,6 +28,8 @@ public final class EdgesOfPlans {
         spareNone();
         spareOneFromFirstToLast();
         spareTwoFromFirstToLast();
+        spareOfHarrows();
+        spareTheLeastRow();
         spareMoreThanTwo();
         spareRefusesBad();
         seenFromLeastToGreatest();
@@ -152,10 +154,20 @@ public final class EdgesOfPlans {
             0, 0, 0, 1, 0, 3, 1, 0, 3, 1, 0, 3, 1, 0, 3, 1, 0, 3, 1, 0, 3, 1, 23, 5);
         ploughIs("a ninth on the last night", x, 23, 5, 2);
         ploughIs("a ninth on the first", x, 0, 0, 1);
+        // The eighth is the harrow of night 5: a ninth comes behind it, though that night is its own.
+        PloughTurns y = eighthIsTheHarrow();
+        ploughIs("behind the harrow, of eight", y, 5, 2, 1);
+        ploughIs("ahead of the harrow, of eight", y, 4, 0, 0);
         is("20 still eight", x.count(4), 8);
         is("20 still full", x.event(0, 0, 0), FULL);
         is("20 the eighth is as told", x.back(), 7);
         is("20 met as told", x.count(5), 1);
+    }
+
+    /** The Roman comes on night 0, is needed from night 2 on, and harrowed in on night 5 by the eighth. */
+    private static PloughTurns eighthIsTheHarrow() {
+        return Check.made("r021", "0c1",
+            0, 0, 2, 1, 9, 0, 1, 9, 0, 1, 9, 0, 1, 9, 0, 1, 9, 0, 1, 9, 0, 1, 5, 2);
     }
 
     private static void ploughRefusesBad() {
@@ -273,6 +285,7 @@ public final class EdgesOfPlans {
         PloughTurns x = Check.made("r001;r051", "0a1;1x1",
             0, 0, 0, 1, 0, 3, 1, 0, 3, 1, 0, 3, 1, 0, 3, 1, 0, 3, 1, 0, 3, 1, 23, 5);
         whenIs("a ninth on the last night", x, 5, 23, 2);
+        whenIs("a ninth behind the harrow", eighthIsTheHarrow(), 2, 5, 1);
         is("22 still eight", x.count(4), 8);
         is("22 the eighth is as told", x.back(), 7);
         is("22 met as told", x.count(5), 1);
@@ -344,6 +357,26 @@ public final class EdgesOfPlans {
         is("23 how many", x.spare(NONE), 2);
         is("23 nothing is changed", x.digest(), before);
         is("23 still eight", x.count(4), 8);
+    }
+
+    /** A harrow may be what had better not be, alone, with another, or with a plough. */
+    private static void spareOfHarrows() {
+        // Two come rightly, and both wrongly behind the harrow, by whichever plough one goes without.
+        spareIs("a harrow", Check.made("d001;d101", "0a1;1a1",
+            0, 0, 0, 0, 0, 0, 1, 1, 0, 0, 2, 0, 0, 2, 0), 1, 2, NONE);
+        spareIs("two harrows", Check.made("d001;d101", "0a1;1a1",
+            1, 1, 0, 1, 1, 0, 0, 0, 0, 0, 0, 0, 0, 2, 0, 0, 2, 0), 2, 0, 1);
+        spareIs("a harrow and a plough", Check.made("d001;d101;r051", "0a1;1a1",
+            0, 0, 0, 0, 0, 0, 1, 1, 0, 0, 2, 0, 0, 2, 0, 0, 3, 5), 2, 2, 5);
+    }
+
+    private static void spareTheLeastRow() {
+        // Of one furrow any of 0 to 2 may go, of the other any of 3 to 5.
+        spareIs("the first of each", Check.made("d001;d011", "0a1;1a1",
+            0, 0, 0, 1, 1, 0, 0, 2, 0, 0, 0, 1, 1, 1, 1, 0, 2, 1), 2, 0, 3);
+        // By the nights: 1, 0, 2, 3, 4. Neither 0 and 1 nor 0 and 2 will do, but 0 and 3, and 1 and 2.
+        spareIs("0 and 3 ahead of 1 and 2", Check.made("d001", "0a1",
+            1, 1, 0, 0, 0, 0, 0, 1, 0, 1, 1, 0, 0, 2, 0), 2, 0, 3);
     }
 
     private static void spareMoreThanTwo() {
@@ -588,6 +621,17 @@ public final class EdgesOfPlans {
         PloughTurns z = Check.made("c009;c101;r011", "0a3;1a1", 0, 0, 0, 0, 1, 0, 0, 2, 1);
         is("28 by all who are up", z.ask(0), 1);
         is("28 of who makes no odds", z.ask(2), 0);
+        // Night 0: by 1 to 5 it is 0 who comes, by 6 to 9 it is 1. Night 2: by 1 to 5 then 2, by 6 alone 0
+        // beside 1, by 7 to 9 it is 2 beside 1. Five is the greatest both times, in however many parts.
+        PloughTurns parts = Check.made("c009;d101;d201", "0a5;2c1", 0, 0, 0, 0, 2, 0);
+        is("28 the greatest alone tells", parts.ask(0), 0);
+        parts.seen(2, 2, 1);
+        is("28 but for 6, five and three on both nights", parts.was(0, 1), 1022 - 64);
+        is("28 but for 6, five and three on both nights", parts.ask(0), 0);
+        parts.forget();
+        // Of 6 to 9: four alike on night 0, then three and one.
+        parts.seen(0, 1, 1);
+        is("28 of 6 to 9", parts.ask(0), 2);
     }
 
     private static void askWhereThereAreNone() {
