@@ -272,6 +272,13 @@ public final class EdgesOfNights {
         is("11 of the eighth", z.at(5, 7, 2), 1);
         is("11 of the seventh", z.at(5, 6, 2), 1);
         is("11 of the sixth", z.at(5, 5, 2), 0);
+        // The last of eight who come is told as the first.
+        PloughTurns all = Check.made(ROMANS, "",
+            0, 0, 0, 0, 0, 0, 0, 0, 0, 0, 0, 0, 0, 0, 0, 0, 0, 0, 0, 0, 1, 0, 23, 1);
+        for (int one = 0; one < 8; one++) {
+            is("11 each of eight came once", all.at(23, one, 2), 1);
+            is("11 all but the last by night 22", all.at(22, one, 2), one < 7 ? 1 : 0);
+        }
     }
 
     private static void atRefusesBad() {
@@ -462,6 +469,7 @@ public final class EdgesOfNights {
         }
         is("16 another is wanted", Check.made("r001;c109", "1a1", 0, 3, 0).wrongly(), 1);
         is("16 the second time", Check.made("r001", "0a1", 0, 0, 0, 1, 0, 0, 0, 0, 0).wrongly(), 1);
+        is("16 twice on a night", Check.made("r001", "", 0, 0, 0, 1, 0, 0, 0, 0, 0).wrongly(), 2);
         is("16 wanted again", Check.made("r001", "0a1;0b1", 0, 0, 0, 1, 0, 0, 0, 1, 0).wrongly(), 0);
         is("16 one of the dead", Check.made("d001", "", 0, 0, 0).wrongly(), 1);
     }

@@ -29,6 +29,7 @@ public final class EdgesOfPlans {
         spareOneFromFirstToLast();
         spareTwoFromFirstToLast();
         spareOfHarrows();
+        spareThoughFewerAreMet();
         spareTheLeastRow();
         spareMoreThanTwo();
         spareRefusesBad();
@@ -368,6 +369,13 @@ public final class EdgesOfPlans {
             1, 1, 0, 1, 1, 0, 0, 0, 0, 0, 0, 0, 0, 2, 0, 0, 2, 0), 2, 0, 1);
         spareIs("a harrow and a plough", Check.made("d001;d101;r051", "0a1;1a1",
             0, 0, 0, 0, 0, 0, 1, 1, 0, 0, 2, 0, 0, 2, 0, 0, 3, 5), 2, 2, 5);
+    }
+
+    private static void spareThoughFewerAreMet() {
+        // The Roman comes wrongly ahead of 1, who is met; without the first plough by the second.
+        PloughTurns x = Check.made("r001;c101", "1b1", 0, 0, 0, 0, 1, 0);
+        is("23 one is met", x.count(5), 1);
+        spareIs("both, though none is met then", x, 2, 0, 1);
     }
 
     private static void spareTheLeastRow() {

@@ -31,6 +31,7 @@ public final class EdgesOfSheets {
         writeRefusesBadAheadOfNull();
         countFromNoneToFull();
         countOfTheLatestFinding();
+        countOfAFindingLongAgo();
         countRefusesBad();
         digestOfNothing();
         digestOfEdges();
@@ -500,6 +501,26 @@ public final class EdgesOfSheets {
         x.count(9);
         x.digest();
         is("37 the latest stays", x.count(8), 2);
+    }
+
+    /** Every call that is not refused, one by one: the latest finding, of before all, stays. */
+    private static void countOfAFindingLongAgo() {
+        PloughTurns x = year();
+        x.sheet(3, INTS, -1);
+        LongSupplier[] calls = {() -> x.type(0, ';'), () -> x.undo(0), () -> x.fault(0), () -> x.gone(0, 0),
+            () -> x.need(0, 0), () -> x.event(0, 5, 0), x::back, () -> x.sheet(0, INTS, 30), () -> x.sheet(1, INTS, 0),
+            () -> x.read(1), () -> x.at(0, 0, 0), () -> x.field(0, 0, 0), () -> x.up(0, 0), () -> x.met(0),
+            () -> x.stood(0), x::wrongly, () -> x.first(0), x::gate, x::rest, () -> x.plough(0, 0), () -> x.lie(0, 0),
+            () -> x.when(0, 0), () -> x.spare(0), () -> x.seen(0, 0, 0), x::forget, x::never, () -> x.was(0, 0),
+            () -> x.ask(0), () -> x.chance(5, 0, 0), () -> x.years(7, 6, 0), () -> x.put(0, INTS, 29, 1),
+            () -> x.get(0, INTS, 29), () -> x.copy(0, 29, 0, 0, 1), () -> x.copy(0, 0, 1, 0, 0), () -> x.write(0, 0),
+            () -> x.read(0), () -> x.count(0), () -> x.count(8), () -> x.lose(1), () -> x.wipe(1)};
+        for (int k = 0; k < calls.length; k++) {
+            Check.holds("37 call " + k + " is not refused", calls[k].getAsLong() >= NONE);
+            is("37 the finding behind call " + k, x.count(8), 5);
+        }
+        x.digest();
+        is("37 the finding behind digest()", x.count(8), 5);
     }
 
     private static void countRefusesBad() {
